@@ -676,10 +676,8 @@ public final class EggScales {
             return NONE;
         }
 
+        /** Of the nest or nowhere, it is never right: no egg belongs there. */
         boolean isRight(int e) {
-            if (where[e] == NEST || where[e] == NOWHERE) {
-                return false;
-            }
             int s = belongs(e);
             return where[e] == (s == NONE ? BASKET : s + 1);
         }

@@ -119,6 +119,11 @@ public final class BarnTest {
     x.clear();
     x.type(255);
     due.is("4: letter 255", x.barn(), -10);
+    x.clear();
+    Due.type(x, "e55 0;");
+    x.clear();
+    Due.type(x, "e5");
+    due.is("4: letters that were cleared are not read", x.barn(), -12);
     faultChangesNothing();
   }
 
@@ -259,6 +264,11 @@ public final class BarnTest {
     due.is("7: right by marks as they are now", x.now(2), 1);
     due.is("7: now(5)", x.now(5), -1);
     due.is("7: now(-1)", x.now(-1), -1);
+    EggScales five = Due.barn("s50 0 9;s40 0 9;s30 0 9;s20 0 9;s10 0 9;e15 0;e15 0;e45 0;");
+    five.rolls(0);
+    five.rolls(1);
+    five.rolls(2);
+    due.is("7: all five scales let fall", five.now(3), 3);
     EggScales none = Due.barn("e5 0;");
     due.is("7: one of the nest is not right", none.now(2), 0);
     none.rolls(0);

@@ -38,6 +38,7 @@ public final class BoxTest {
     boxIs(x, 6, 250, 63, 0);
     boxIs(x, 6, 251, -9, -9);
     boxIs(x, 6, 600, -9, -9);
+    boxIs(x, 1, 51, 1, 9);
     EggScales same = fallen("e10 0;e10 0;e10 0;e10 0;");
     boxIs(same, 2, 15, 3, 5);
     boxIs(same, 4, 15, 15, 25);

@@ -111,6 +111,12 @@ public final class TesterTest {
     due.is("25: no scales", new EggScales().next(), -9);
     // 19 ways tip at 41 .. 59: 50 parts them 10 and 9, 49 9 and 10, the lowest is taken
     due.is("25: one scale", Due.barn("s50 0 9;").next(), 49);
+    EggScales two = Due.barn("s50 0 9;");
+    two.tested(57, -9);
+    due.is("25: two ways", two.next(), 58);
+    EggScales heavy = Due.barn("s99 0 9;");
+    heavy.tested(98, -9);
+    due.is("25: the heaviest", heavy.next(), 99);
     EggScales five = Due.barn("s90 0 9;s70 0 9;s50 0 9;s30 0 9;s10 0 9;");
     nextIs(five, new int[] {90, 70, 50, 30, 10}, new int[][] {});
     nextIs(five, new int[] {90, 70, 50, 30, 10}, new int[][] {{65, 1}});

@@ -6,6 +6,7 @@ public final class WhereTest {
     goes();
     order();
     orderEdges();
+    asksAnew();
     row();
     rowEdges();
     reset();
@@ -74,6 +75,16 @@ public final class WhereTest {
     orderIs("six", Due.barn("s50 1 9;e56 0;e55 0;e54 0;e53 0;e52 0;e51 0;"), 6, 0, 5, 4, 3, 2, 1);
   }
 
+  private static void asksAnew() {
+    EggScales x = Due.barn("s50 0 9;e60 0;e55 0;e52 3;");
+    orderIs("ahead of a change", x, 3, 0, 1, 2);
+    rowIs("ahead of a change", x, 3, 0);
+    x.drops(2);
+    x.drops(0);
+    orderIs("behind a change for the worse", x, 1, 1);
+    rowIs("behind a change for the worse", x, 1, 0);
+  }
+
   private static void rowIs(String what, EggScales x, int many, int... scales) {
     due.is("17: " + what + ", how many", x.row(-1), many);
     for (int k = 0; k < 7; k++) {
@@ -98,6 +109,9 @@ public final class WhereTest {
   }
 
   private static void rowEdges() {
+    // each tray has room for one: by marks going down, each egg finds its own
+    rowIs("five scales, six eggs",
+        Due.barn("s10 0 1;s20 0 1;s30 0 1;s40 0 1;s50 0 1;e55 0;e45 0;e35 0;e25 0;e15 0;e5 0;"), 6, 4, 3, 2, 1, 0);
     rowIs("no scales", Due.barn("e5 0;e6 0;"), 2);
     rowIs("nothing at all", new EggScales(), 0);
     rowIs("no eggs", Due.barn("s1 0 1;s2 0 1;s3 0 1;s4 0 1;s5 0 1;"), 0, 0, 1, 2, 3, 4);
