@@ -8,7 +8,7 @@ public final class EggScales {
     private static final int MOST_SCALES = 5, MOST_EGGS = 6, MOST_LETTERS = 120;
     private static final int MOST_FALLS = 999, MOST_UNDONE = 10, MOST_TESTS = 6, IMAGES = 2;
     private static final int HEAVIEST = 99, MOST_STICKS = 9, MOST_ROOM = 9, HEAVIEST_BOX = 600;
-    private static final int EGG = 0, DOUBLE = 2, CRACKED = 3, DUCK = 4, BANTAM = 5;
+    private static final int EGG = 0, BROWN = 1, DOUBLE = 2, CRACKED = 3, DUCK = 4, BANTAM = 5;
     private static final int NEST = 0, BASKET = 8, NOWHERE = 9;
     private static final int YOLK = 3, MOST_OFF = 9, TENTHS = 10;
 
@@ -311,7 +311,7 @@ public final class EggScales {
         }
         switch (kind) {
             case EGG: return rateEgg(e);
-            case 1: return rateBrown(e);
+            case BROWN: return rateBrown(e);
             case DOUBLE: return rateDouble(e);
             case CRACKED: return rateCracked(e);
             case DUCK: return rateDuck(e);
