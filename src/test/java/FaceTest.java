@@ -46,6 +46,9 @@ public final class FaceTest {
     for (Class<?> c : EggScales.class.getDeclaredClasses()) {
       due.isTrue(c + " is static and not public", Modifier.isStatic(c.getModifiers())
           && !Modifier.isPublic(c.getModifiers()) && !Modifier.isProtected(c.getModifiers()));
+      for (Method m : c.getDeclaredMethods()) {
+        due.isTrue(m + " bears no public name", !publicNames.contains(m.getName()));
+      }
     }
     due.end();
   }
