@@ -1,3 +1,5 @@
+import java.lang.reflect.Field;
+import java.lang.reflect.Modifier;
 import java.nio.charset.StandardCharsets;
 import java.nio.file.Files;
 import java.nio.file.Path;
@@ -5,10 +7,10 @@ import java.util.Set;
 import java.util.regex.Matcher;
 import java.util.regex.Pattern;
 
-/** ../shared/LANGUAGE.md: what of its rules the source's words alone can show. FaceTest has rule 1. */
+/** ../shared/LANGUAGE.md: what of its rules the source's words alone can show. FaceTest has rule 1, WildTest rule 7. */
 public final class LanguageTest {
   private static final Due due = new Due();
-  private static final int MOST_LINES = 60, MOST_PARAMETERS = 7, MOST_CLASSES = 12;
+  private static final int MOST_LINES = 60, MOST_PARAMETERS = 7, MOST_CLASSES = 12, MOST_FIELDS = 20;
 
   public static void main(String[] args) throws Exception {
     String file = Files.readString(Path.of("src/main/java/EggScales.java"), StandardCharsets.ISO_8859_1);
@@ -24,6 +26,10 @@ public final class LanguageTest {
     staticFields(code);
     libraryCalls(code);
     methods(code);
+    fields(EggScales.class);
+    for (Class<?> inside : EggScales.class.getDeclaredClasses()) {
+      fields(inside);
+    }
     due.end();
   }
 
@@ -60,6 +66,17 @@ public final class LanguageTest {
       boolean isConstant = rest.matches("(?s)final (int|long|boolean|char|String)\\b(\\[\\])* .*");
       due.isTrue("rule 5: static " + rest, isClass || isMethod || isConstant);
     }
+  }
+
+  /** Rules 3 and 11: few fields, of numbers, of rows of numbers, or of the classes inside. */
+  private static void fields(Class<?> owner) {
+    int own = 0;
+    for (Field f : owner.getDeclaredFields()) {
+      Class<?> type = f.getType().isArray() ? f.getType().getComponentType() : f.getType();
+      due.isTrue("rule 3: " + f, type.isPrimitive() || type.getEnclosingClass() == EggScales.class);
+      own += Modifier.isStatic(f.getModifiers()) ? 0 : 1;
+    }
+    due.isTrue("rule 11: fields of " + owner.getName() + ": " + own, own <= MOST_FIELDS);
   }
 
   private static void libraryCalls(String code) {

@@ -241,6 +241,12 @@ public final class TermsTest {
     is("basket", x.now(1), 0);
     is("tray", x.scale(0, 5), 0);
     is("what has fallen stays", x.scale(0, 3), 1);
+    EggScales leaky = Due.barn("s60 0 9;s40 0 9;e50 3;e50 0;");
+    leaky.rolls(0);
+    leaky.takes(0);
+    is("what has leaked is gone", leaky.egg(0, 0), 49);
+    leaky.drops(1);
+    is("one that is nowhere", leaky.takes(1), -2);
     says("WIPED: a SCALE never let fall.");
     x.rolls(0);
     is("it is stiff by 2", x.sets(0, 51), 50);
@@ -248,6 +254,12 @@ public final class TermsTest {
     is("twice till then", x.wipes(0), 2);
     is("never", x.scale(0, 3), 0);
     is("not stiff", x.goes(2), 0);
+    is("the egg is in its tray", x.scale(0, 5), 1);
+    EggScales both = Due.barn("s60 0 9;s40 0 9;e70 0;e50 0;");
+    both.rolls(0);
+    both.rolls(1);
+    both.wipes(0);
+    is("the other let fall", both.scale(1, 3), 1);
     says("SET: a SCALE gets another MARK.");
     is("till then", x.sets(0, 53), 51);
     is("mark", x.scale(0, 0), 53);
@@ -333,6 +345,12 @@ public final class TermsTest {
     x.shifts(0);
     is("the first of the row", x.egg(0, 4), 1);
     x.undo();
+    x.sets(0, 61);
+    is("the mark as it is now", x.egg(0, 4), 1);
+    x.undo();
+    EggScales leaky = Due.barn("s60 0 9;s50 0 9;e50 3;");
+    leaky.rolls(0);
+    is("the weight as it is now", leaky.egg(0, 4), NONE);
     says("RIGHT: EGGS (bits) in trays, in the BASKET that are where they BELONG.");
     is("in the tray", x.now(2), 1);
     x.rolls(1);
@@ -410,6 +428,8 @@ public final class TermsTest {
     is("past the full one, 10", x.reset(0, 1), 10);
     x.takes(4);
     is("stiff by 1: 10 and 10", x.reset(0, 1), 20);
+    x.shifts(0);
+    is("the first of the row as it is", x.reset(0, 1), 10);
   }
 
   private static void box() {
@@ -551,6 +571,9 @@ public final class TermsTest {
     is("its own kind does not matter", x.rate(0, 0), 60);
     says("EGG its WEIGHT (1).");
     is("45", x.rate(0, 1), 45);
+    EggScales leaky = Due.barn("s60 0 9;e50 3;");
+    leaky.rolls(0);
+    is("what is left", leaky.rate(0, 0), 49);
     says("BROWN up, and how many EGGS are where it is (10).");
     is("three in the nest", x.rate(1, 1), 48);
     is("one in the tray", x.rate(1, 0), 61);
