@@ -173,6 +173,16 @@ public final class RefusedTest {
       int i = image;
       twins.refused("28: back(" + i + ") of a new object", RefusedTest::nothing, x -> x.back(i), STATE);
       twins.refused("28: back(" + i + "), none was kept", RefusedTest::scalesAndEggs, x -> x.back(i), STATE);
+      Twins.Calls otherKept = x -> {
+        scalesAndEggs(x);
+        x.rolls(1);
+        x.keep(1 - i);
+        x.rolls(0);
+        x.tested(60, 0);
+        x.rate(1, 0);
+        return x.type('e');
+      };
+      twins.refused("28: back(" + i + "), the other was kept", otherKept, x -> x.back(i), STATE);
     }
     twins.refused("14: undo() of a new object", RefusedTest::nothing, EggScales::undo, STATE);
     twins.refused("14: undo(), nothing was done", RefusedTest::scalesAndEggs, EggScales::undo, STATE);
